@@ -127,7 +127,6 @@ public final class SumsTest {
         for (int bay : filled) {
             x.store(bay, 0, 200);
         }
-        // Cracked are 6 (5: 200, 4: 0 is not more than 200), 7, 8 and 4? Their sums tell.
         CHECK.due("rung 4 has 400", 0, x.rungOf(4, 3));
         CHECK.due("rung 7 has 200", 1, x.rungOf(7, 3));
         CHECK.due("rung 8 has 1000", 1, x.rungOf(8, 3));

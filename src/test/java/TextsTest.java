@@ -205,30 +205,24 @@ public final class TextsTest {
 
     private static void longest() {
         GranaryLadder x = new GranaryLadder();
-        for (int rung = 1; rung <= 19; rung += 2) {
-            x.store(rung - 1, 0, 101);
-            x.take(rung - 1, 101);
+        for (int bay = 0; bay < 10; bay++) {
+            x.store(bay, 0, 200);
         }
-        String text = "fix 1;fix 3;fix 5;fix 7;fix 9;fix 11;fix 13;fix 15;fix 17;";
-        CHECK.due("length", text.length(), Check.type(x, text));
-        CHECK.due("it ends too early", -1000 - text.length(), x.run());
-        CHECK.due("ten commands", 10, Check.runText(new GranaryLadder(), tenPasses()));
-        CHECK.due("nine commands", 9, Check.runText(x, text.substring(0, text.length() - 1)));
-        CHECK.due("coins", 50 - 18, x.account(1));
-        CHECK.due("one is cracked", 1, x.account(13));
-        Check.type(x, "fix 1;fix 1;fix 1;fix 1;fix 1;fix 1;fix 1;fix 1;fix 1;fix 1;");
-        CHECK.due("60 characters", 60, x.account(16));
-        CHECK.due("the text is full", -13, x.append('f'));
+        for (int bay = 0; bay < 10; bay++) {
+            x.take(bay, 200);
+        }
+        CHECK.due("60 characters", 60, Check.type(x, "fix 1;fix 2;fix 3;fix 4;fix 5;fix 6;fix 7;fix 8;fix 9;fix 10"));
+        CHECK.due("the text is full", -13, x.append('0'));
+        CHECK.due("ten commands", 10, x.run());
+        CHECK.due("coins", 50 - 33, x.account(1));
+        CHECK.due("the rung 16 stays cracked", 1, x.account(13));
+        CHECK.due("60 characters", 60, Check.type(x, "fix 16;fix 1;fix 2;fix 3;fix 4;fix 5;fix 6;fix 7;fix 8;fix 0"));
+        CHECK.due("the second one fails", -14, x.run());
+        CHECK.due("detail", 1, x.reason(true));
+        CHECK.due("60 characters", 60, Check.type(x, "fix 1;fix 1;fix 1;fix 1;fix 1;fix 1;fix 1;fix 1;fix 1;fix 1;"));
         CHECK.due("ten commands and nothing behind", -1060, x.run());
-        Check.type(x, "fix 19;fix 1;fix 1;fix 1;fix 1;fix 1;fix 1;fix 1;fix 1;fix 1");
-        CHECK.due("60 characters", 60, x.account(16));
-        CHECK.due("ten commands", -14, x.run());
-        CHECK.due("the second one fails", 1, x.reason(true));
-    }
-
-    /** The shortest command that can be carried out again and again has 6 characters: only eight of them and more. */
-    private static String tenPasses() {
-        return "pass 1;pass 1;pass 1;pass 1;pass 1;pass 1;pass 1;pass 1";
+        CHECK.due("60 characters", 60, Check.type(x, "fix 1;fix 1;fix 1;fix 1;fix 1;fix 1;fix 1;fix 1;fix 1;fix 1x"));
+        CHECK.due("a fault at the end", -1059, x.run());
     }
 
     private static void oneChange() {
