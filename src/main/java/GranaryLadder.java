@@ -252,8 +252,8 @@ public final class GranaryLadder {
         int most = 0;
         for (int bay = 0; bay < BAYS; bay++) {
             int age = now.ageIn(bay);
-            int sacks = now.isEmpty(bay) ? 0 : now.sacksAsOldAs(age);
-            if (sacks > most || sacks > 0 && sacks == most && age < best) {
+            int sacks = now.sacksAsOldAs(age);
+            if (!now.isEmpty(bay) && (sacks > most || sacks == most && age < best)) {
                 most = sacks;
                 best = age;
             }
@@ -280,12 +280,12 @@ public final class GranaryLadder {
         }
         int firstEmpty = NOTHING;
         for (int bay = 0; bay < BAYS; bay++) {
-            if (!now.cracksUnder(bay, sacks)) {
-                if (now.isEmpty(bay)) {
-                    firstEmpty = firstEmpty == NOTHING ? bay : firstEmpty;
-                } else if (now.kindIn(bay) == kind && now.sacksIn(bay) + sacks <= MOST_SACKS) {
-                    return bay;
-                }
+            boolean isFit = hasRoom(bay, kind, sacks) && !now.cracksUnder(bay, sacks);
+            if (isFit && !now.isEmpty(bay)) {
+                return bay;
+            }
+            if (isFit && firstEmpty == NOTHING) {
+                firstEmpty = bay;
             }
         }
         return firstEmpty;
@@ -870,7 +870,9 @@ public final class GranaryLadder {
         int sacksOfKind(int kind) {
             int sum = 0;
             for (int bay = 0; bay < BAYS; bay++) {
-                sum += kindIn(bay) == kind ? sacksIn(bay) : 0;
+                if (kindIn(bay) == kind) {
+                    sum += sacksIn(bay);
+                }
             }
             return sum;
         }
@@ -878,7 +880,9 @@ public final class GranaryLadder {
         int sacksAsOldAs(int age) {
             int sum = 0;
             for (int bay = 0; bay < BAYS; bay++) {
-                sum += ageIn(bay) == age ? sacksIn(bay) : 0;
+                if (ageIn(bay) == age) {
+                    sum += sacksIn(bay);
+                }
             }
             return sum;
         }
@@ -886,7 +890,9 @@ public final class GranaryLadder {
         int filledBays() {
             int count = 0;
             for (int bay = 0; bay < BAYS; bay++) {
-                count += isEmpty(bay) ? 0 : 1;
+                if (!isEmpty(bay)) {
+                    count++;
+                }
             }
             return count;
         }
@@ -894,7 +900,9 @@ public final class GranaryLadder {
         int crackedRungs() {
             int count = 0;
             for (int rung = 1; rung <= RUNGS; rung++) {
-                count += isCracked(rung) ? 1 : 0;
+                if (isCracked(rung)) {
+                    count++;
+                }
             }
             return count;
         }
@@ -903,7 +911,9 @@ public final class GranaryLadder {
         int placeOf(int bay) {
             int place = 0;
             for (int other = 0; other < BAYS; other++) {
-                place += !isEmpty(other) && isAhead(other, bay) ? 1 : 0;
+                if (!isEmpty(other) && isAhead(other, bay)) {
+                    place++;
+                }
             }
             return place;
         }

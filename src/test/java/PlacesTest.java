@@ -6,6 +6,7 @@ public final class PlacesTest {
         oldest();
         commonAge();
         tightest();
+        greatestRung();
         bestBay();
         bestBayByRungs();
         wrongBestBay();
@@ -78,12 +79,34 @@ public final class PlacesTest {
         CHECK.due("cracked ones don't count", 3, x.tightest());
         x.store(5, 0, 98);
         CHECK.due("198 of 200", 6, x.tightest());
-        for (int bay = 0; bay < 32; bay++) {
-            if (x.bayOf(bay, 1) < 200) {
-                x.store(bay, 0, 200 - x.bayOf(bay, 1));
-            }
+    }
+
+    /** All rungs but the greatest one are cracked, which has room for 84 sacks still. */
+    private static GranaryLadder withoutRungsButOne() {
+        GranaryLadder x = new GranaryLadder();
+        for (int bay = 0; bay < 31; bay++) {
+            x.store(bay, 0, bay % 2 == 0 ? 101 : 100);
         }
+        return x;
+    }
+
+    private static void greatestRung() {
+        GranaryLadder x = withoutRungsButOne();
+        CHECK.due("31 are cracked", 31, x.account(13));
+        CHECK.due("the rung 32 alone is sound", 32, x.tightest());
+        CHECK.due("its sum", 3116, x.rungOf(32, 1));
+        CHECK.due("the rung 32 bears 84", 0, x.bestBay(0, 84));
+        CHECK.due("the rung 32 bears 84", 31, x.bestBay(1, 84));
+        CHECK.due("the rung 32 doesn't bear 85", -15, x.bestBay(0, 85));
+        CHECK.due("the rung 32 doesn't bear 85", -15, x.bestBay(1, 85));
+        CHECK.due("to its load", 0, x.store(31, 1, 84));
+        CHECK.due("it is sound", 32, x.tightest());
+        CHECK.due("and more", 1, x.store(31, 1, 1));
         CHECK.due("all are cracked", -15, x.tightest());
+        CHECK.due("the set over the bay 31", 32, x.bayOf(31, 5));
+        CHECK.due("the set over the bay 0", 63, x.bayOf(0, 5));
+        CHECK.due("all that is cracked bears all", 31, x.bestBay(1, 115));
+        CHECK.due("but no bay has more than 200", -15, x.bestBay(1, 116));
     }
 
     private static void bestBay() {

@@ -64,6 +64,7 @@ public final class TextsTest {
         dueFault("store 123", 8);
         dueFault("store 12 ", 9);
         dueFault("store 1 x", 8);
+        dueFault("store 1  5", 8);
         dueFault("store 1 W", 8);
         dueFault("store 1 w", 9);
         dueFault("store 1 w1", 9);
@@ -78,6 +79,7 @@ public final class TextsTest {
         dueFault("tale", 2);
         dueFault("take 1", 6);
         dueFault("take 1 ", 7);
+        dueFault("take 123 4", 7);
         dueFault("take 1>2 3", 6);
         dueFault("take 1 1234", 10);
         dueFault("move 1 2 3", 6);
@@ -90,6 +92,7 @@ public final class TextsTest {
         dueFault("order 1 5", 6);
         dueFault("order x", 6);
         dueFault("order o", 7);
+        dueFault("order  5", 6);
         dueFault("order ob", 7);
         dueFault("order o 1000", 11);
         dueFault("order o 1/", 9);
