@@ -4,7 +4,7 @@ import java.util.Random;
 public final class ModelTest {
     private static final Check CHECK = new Check("model");
     private static final int RUNS = 600;
-    private static final int CALLS = 440;
+    private static final int CALLS = 400;
     private static final int[] STRANGE = {Integer.MIN_VALUE, Integer.MIN_VALUE + 1, -1000, -33, -32, -1, 0, 1, 31, 32, 33,
         52, 53, 60, 126, 127, 200, 201, 999, 1000, 9999, 10000, Integer.MAX_VALUE - 1, Integer.MAX_VALUE};
 
@@ -17,6 +17,7 @@ public final class ModelTest {
     private final int sacks;
     private final int kinds;
     private final boolean isStrange;
+    private final boolean isFull;
     private String pending = "";
 
     private ModelTest(int run) {
@@ -26,6 +27,7 @@ public final class ModelTest {
         sacks = random.nextBoolean() ? 200 : 30;
         kinds = 1 + random.nextInt(4);
         isStrange = run % 10 == 9;
+        isFull = run % 4 == 3;
     }
 
     public static void main(String[] args) {
@@ -35,7 +37,22 @@ public final class ModelTest {
         CHECK.end();
     }
 
+    /** Nearly all bays get grain, so that great rungs crack too. */
+    private void fill() {
+        int least = 1 + random.nextInt(150);
+        for (int bay = 0; bay < 32; bay++) {
+            int kind = random.nextInt(kinds);
+            int load = least + random.nextInt(201 - least);
+            if (random.nextInt(30) > 0) {
+                due("store(" + bay + ", " + kind + ", " + load + ")", model.store(bay, kind, load), granary.store(bay, kind, load));
+            }
+        }
+    }
+
     private void go() {
+        if (isFull) {
+            fill();
+        }
         for (int call = 0; call < CALLS; call++) {
             if (!pending.isEmpty()) {
                 int code = pending.charAt(0);
