@@ -62,6 +62,12 @@ public final class PlacesTest {
         CHECK.due("the younger of like ones", 1, x.commonAge());
         x.order(0, 30);
         CHECK.due("29 and 28 are left", 1, x.commonAge());
+        GranaryLadder y = new GranaryLadder();
+        y.store(9, 2, 1);
+        y.pass(3);
+        CHECK.due("a single sack", 3, y.commonAge());
+        y.store(4, 2, 1);
+        CHECK.due("the youngest, of which the bay is lower", 0, y.commonAge());
     }
 
     private static void tightest() {
