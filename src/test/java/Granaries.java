@@ -1,6 +1,8 @@
-/** Granaries in states that several tests begin with, and pictures of what can be seen of one. */
+/**
+ * Granaries in states that several tests begin with, and pictures of what can be seen of one. A picture takes some 220
+ * calls, and no test may use an object for more than 512: what it answers after them is free.
+ */
 final class Granaries {
-    /** As in all tests here, no object is used for more than 512 calls: a picture takes some 220 of them. */
     private static final int LONGEST_LINE = 39;
 
     private Granaries() {
