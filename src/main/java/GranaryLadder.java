@@ -314,13 +314,14 @@ public final class GranaryLadder {
             return FIRST_FAULT - text.faultPosition();
         }
         before.copyFrom(now);
-        for (int command = 0; command < text.commandCount(); command++) {
+        int commands = text.commandCount();
+        for (int command = 0; command < commands; command++) {
             if (carryOut(command) < 0) {
                 now.copyFrom(before);
                 return refuse(COMMAND_FAILS, command);
             }
         }
-        return remember(text.commandCount());
+        return remember(commands);
     }
 
     public int tell(int row) {
@@ -722,7 +723,9 @@ public final class GranaryLadder {
         private final int[] counters = new int[COUNTERS];
 
         Wall() {
-            put(counters, COINS, FIRST_COINS);
+            if (COINS < counters.length) {
+                counters[COINS] = FIRST_COINS;
+            }
         }
 
         void copyFrom(Wall other) {
